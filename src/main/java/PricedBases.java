@@ -1720,13 +1720,31 @@ public final class PricedBases {
         final int[] first = new int[MOST_ELEMENTS];
         private final int[] row = new int[MOST_ELEMENTS];
         private final int[] images = new int[SETS];
+        private final long[] marks = new long[MOST_ELEMENTS];
+        private final long[] imageMarks = new long[MOST_ELEMENTS];
 
         boolean isFound(Valuation v, Valuation w) {
+            for (int e = 0; e < v.n; e++) {
+                marks[e] = mark(v, e);
+                imageMarks[e] = mark(w, e);
+            }
             if (!isCompleted(v, w, 0)) {
                 return false;
             }
             System.arraycopy(row, 0, first, 0, MOST_ELEMENTS);
             return true;
+        }
+
+        /** An element goes only to one whose bases have the same values, so that most rows end at once. */
+        private static long mark(Valuation v, int element) {
+            long sum = 0;
+            for (int p = 0; p < v.size; p++) {
+                if (isIn(v.bases[p], element)) {
+                    long value = HIGHEST_VALUE + 1L + v.values[v.bases[p]];
+                    sum += value * value;
+                }
+            }
+            return sum;
         }
 
         /**
@@ -1787,18 +1805,20 @@ public final class PricedBases {
             return false;
         }
 
-        /** Lays down the images of all sets whose last element stands at this place. */
+        /** Lays down the images of all sets whose last element stands at this place, as far as they suit. */
         private boolean suits(Valuation v, Valuation w, int at) {
+            if (marks[at] != imageMarks[row[at]]) {
+                return false;
+            }
             images[0] = 0;
-            boolean like = true;
             for (int below = 0; below < 1 << at; below++) {
                 int set = below | 1 << at;
                 images[set] = images[below] | 1 << row[at];
                 if (v.values[set] != w.values[images[set]]) {
-                    like = false;
+                    return false;
                 }
             }
-            return like;
+            return true;
         }
     }
 
