@@ -639,7 +639,7 @@ public final class PricedBases {
         }
 
         boolean hasSet(int set) {
-            return set >= 0 && set < sets();
+            return set >= 0 && set < 1 << n;
         }
 
         boolean hasBase(int set) {
@@ -1346,9 +1346,7 @@ public final class PricedBases {
         static int ofPrices(int set, int[] prices) {
             int sum = 0;
             for (int e = 0; e < MOST_ELEMENTS; e++) {
-                if (isIn(set, e)) {
-                    sum += prices[e];
-                }
+                sum += (set >> e & 1) * prices[e];
             }
             return sum;
         }
