@@ -455,6 +455,7 @@ public final class PricedBases {
         return what == 0 ? at : gone;
     }
 
+    /** All eight prices are drawn each time, of a shelf of fewer elements too, for X goes on by each of them. */
     public int drawn(int s, int n) {
         Valuation v = now.shelfAt(s);
         if (v == null || n < 1 || n > MOST_DRAWN) {
@@ -463,7 +464,7 @@ public final class PricedBases {
         int x = now.x;
         int arriving = 0;
         for (int k = 0; k < n; k++) {
-            for (int e = 0; e < v.n; e++) {
+            for (int e = 0; e < MOST_ELEMENTS; e++) {
                 x = next(x);
                 drawnPrices[e] = x % 21 - 10;
             }

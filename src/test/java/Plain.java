@@ -1242,7 +1242,7 @@ final class Plain {
         int found = 0;
         for (int k = 0; k < n; k++) {
             int[] draws = new int[8];
-            for (int e = 0; e < v.n; e++) {
+            for (int e = 0; e < 8; e++) {
                 aside = anew(aside);
                 draws[e] = aside % 21 - 10;
             }

@@ -785,6 +785,7 @@ public final class PromiseTest {
         due("drawn where the law holds", x.drawn(0, 60), 60);
         due("drawn where it does not", x.drawn(1, 60), new PlainOf("told 1 8 2 3 0 12 5 48 9 192 -3 129 4").plain.drawn(1, 60));
         due("drawn 1", x.drawn(2, 1), 1);
+        drawsOfFewerElements();
         due("drawn 0", x.drawn(0, 0), NONE);
         due("drawn 61", x.drawn(0, 61), NONE);
         due("drawn of no shelf", x.drawn(4, 1), NONE);
@@ -801,6 +802,26 @@ public final class PromiseTest {
         due("count of bases", x.count(2), 6 + 5 + 1 + 2);
         due("count 3", x.count(3), NONE);
         due("count -1", x.count(-1), NONE);
+    }
+
+    /** Eight prices are drawn each time: -6 9 5 -8 8 -3 1 3, then 0 -7 5 10 -1 3 -9 -8, then -9 5 -6 -5 -8 8 6 6, .. */
+    private static void drawsOfFewerElements() {
+        PricedBases x = with("told 0 4 2 3 0 12 5;told 1 4 2 3 0 12 0 5 -1;told 2 4 2 3 0 12 4;told 3 4 2 3 0 12 -23");
+        // greedy stays at the least base: 0 1 against 2 3 and the value of these is 3:2, -7:20, -4:-6
+        due("drawn once", x.drawn(0, 1), 1);
+        due("drawn twice", x.drawn(0, 2), 1);
+        due("drawn three times", x.drawn(0, 3), 2);
+        due("drawn six times", x.drawn(0, 6), 2);
+        due("drawn sixty times", x.drawn(0, 60), 10);
+        due("drawn by a step between", x.drawn(1, 5), 4);
+        due("drawn with a lesser value", x.drawn(2, 3), 2);
+        due("drawn with a value far less", x.drawn(3, 3), 3);
+        due("X stays", x.count(1), 1);
+        due("seed", x.seed(500), true);
+        due("drawn by a seed", x.drawn(0, 4), 0);
+        due("drawn by a seed", x.drawn(0, 6), 2);
+        due("drawn by a seed", x.drawn(0, 60), 19);
+        due("X is the seed", x.count(1), 500);
     }
 
     /** Plain by a text. */
