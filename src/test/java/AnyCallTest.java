@@ -61,13 +61,6 @@ public final class AnyCallTest {
         for (int k = 0; k < 12 && x.count(0) != 0; k++) {
             x.orders(1);
         }
-        for (int k = 0; k < text.length(); k += 20) {
-            int[] w = new int[5];
-            for (int i = 0; i < 20 && k + i < text.length(); i++) {
-                w[i / 4] |= text.charAt(k + i) << 24 - 8 * (i % 4);
-            }
-            x.feed(w[0], w[1], w[2], w[3], w[4]);
-        }
-        x.orders(text.length());
+        Texts.orders(x, text);
     }
 }

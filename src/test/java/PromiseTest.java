@@ -21,27 +21,9 @@ public final class PromiseTest {
         due(what, got ? 1 : 0, want ? 1 : 0);
     }
 
-    /** Feeds a text, whole ints filled with what nothing may look at. */
-    private static void feed(PricedBases x, String text) {
-        for (int k = 0; k < text.length(); k += 20) {
-            int[] w = new int[5];
-            for (int i = 0; i < 20; i++) {
-                int sign = k + i < text.length() ? text.charAt(k + i) : '7';
-                w[i / 4] = w[i / 4] << 8 | sign;
-            }
-            x.feed(w[0], w[1], w[2], w[3], w[4]);
-        }
-    }
-
-    private static int orders(PricedBases x, String text) {
-        feed(x, text);
-        return x.orders(text.length());
-    }
-
     private static PricedBases with(String text) {
         PricedBases x = new PricedBases();
-        int clauses = text.length() - text.replace(";", "").length() + 1;
-        due("orders " + text, orders(x, text), clauses);
+        due("orders " + text, Texts.orders(x, text), Texts.clauses(text));
         return x;
     }
 
@@ -112,7 +94,7 @@ public final class PromiseTest {
     private static void clauseTexts() {
         PricedBases x = new PricedBases();
         due("orders, none fed", x.orders(1), NONE);
-        feed(x, "price 0 3");
+        Texts.feed(x, "price 0 3");
         due("orders 0", x.orders(0), NONE);
         due("orders -1", x.orders(-1), NONE);
         due("orders 21", x.orders(21), NONE);
@@ -127,17 +109,17 @@ public final class PromiseTest {
         due("the tape stays", x.count(0), 220);
         due("orders 200", x.orders(200), -1000);
         due("a fault empties the tape", x.count(0), 0);
-        due("nothing is done by a fault", orders(x, "price 1 7;price 2 x"), -1018);
+        due("nothing is done by a fault", Texts.orders(x, "price 1 7;price 2 x"), -1018);
         due("nothing is done by a fault", x.price(1, 0), 0);
-        due("minus nought", orders(x, "price -0 -0000005"), 1);
+        due("minus nought", Texts.orders(x, "price -0 -0000005"), 1);
         due("price", x.price(0, 0), -5);
         String sixteen = "price 0 1;price 1 1;price 2 1;price 3 1;price 4 1;price 5 1;price 6 1;price 7 1";
-        due("sixteen", orders(x, sixteen + ";" + sixteen), 16);
+        due("sixteen", Texts.orders(x, sixteen + ";" + sixteen), 16);
     }
 
     private static void fault(String text, int want) {
         PricedBases x = new PricedBases();
-        due("fault of " + text, orders(x, text), want);
+        due("fault of " + text, Texts.orders(x, text), want);
         due("past of " + text, x.past(0, 0), NONE);
     }
 
@@ -254,7 +236,7 @@ public final class PromiseTest {
         due("by", x.value(3, 1), 1);
         due("by", x.value(3, 2), 4);
         due("by", x.value(3, 4), 5);
-        due("more", orders(x, "price 0 10;price 3 -4;shift 1 0;cut 2 0;raise 3 0;plus 0 2 2"), 6);
+        due("more", Texts.orders(x, "price 0 10;price 3 -4;shift 1 0;cut 2 0;raise 3 0;plus 0 2 2"), 6);
         due("shift", x.value(1, 3), 11);
         due("shift", x.value(1, 9), 9);
         due("shift", x.value(1, 12), 5);
@@ -295,10 +277,10 @@ public final class PromiseTest {
         };
         int[] done = {0, 0, 0, 0, 0, 0, 0, 0, 2, 1, 0, 1, 2, 1, 4, 1, 1, 1, 0};
         for (int k = 0; k < texts.length; k++) {
-            due("done of " + texts[k], orders(new PricedBases(), texts[k] + ";price 7 9"), done[k]);
+            due("done of " + texts[k], Texts.orders(new PricedBases(), texts[k] + ";price 7 9"), done[k]);
         }
         PricedBases x = new PricedBases();
-        due("one refused", orders(x, "price 0 3;uniform 0 3 1;cut 0 0;price 0 4"), 2);
+        due("one refused", Texts.orders(x, "price 0 3;uniform 0 3 1;cut 0 0;price 0 4"), 2);
         due("what was done stays", x.price(0, 0), 3);
         due("what was done stays", x.shelf(0, 0), 3);
     }
@@ -378,7 +360,7 @@ public final class PromiseTest {
         due("exchange, A no base", x.exchange(1, 5, 12, 0), NONE);
         due("exchange, B no base", x.exchange(1, 3, 6, 0), NONE);
         due("exchange, no shelf", x.exchange(4, 3, 12, 0), NONE);
-        due("exchange goes by values", orders(x, "told 0 4 2 3 3 12 3 5 0 10 0 6 3 9 3"), 1);
+        due("exchange goes by values", Texts.orders(x, "told 0 4 2 3 3 12 3 5 0 10 0 6 3 9 3"), 1);
         due("exchange goes by values", x.exchange(0, 3, 12, 0), 2);
         due("exchange goes by values", x.exchange(0, 12, 3, 2), 0);
         due("exchange goes by values", x.exchange(0, 3, 12, 1), 3);
@@ -412,7 +394,7 @@ public final class PromiseTest {
         due("component 5", x.component(0, 5), NONE);
         due("component -1", x.component(0, -1), NONE);
         due("component of no shelf", x.component(4, 0), NONE);
-        due("more", orders(x, "told 2 4 2 6 0 10 0;graph 3 5 4 0 1 1 2 0 2 2 3 0 3"), 2);
+        due("more", Texts.orders(x, "told 2 4 2 6 0 10 0;graph 3 5 4 0 1 1 2 0 2 2 3 0 3"), 2);
         due("a loop hangs with itself", x.component(2, 0), 0);
         due("a bridge hangs with itself", x.component(2, 1), 1);
         due("two in turn", x.component(2, 3), 2);
@@ -420,7 +402,7 @@ public final class PromiseTest {
         due("a loop is in the closure", x.closure(2, 0), 1);
         due("quotient of itself", x.quotient(0, 0), 1);
         due("quotient", x.quotient(1, 2), 0);
-        due("a cut is a quotient", orders(x, "cut 1 0"), 1);
+        due("a cut is a quotient", Texts.orders(x, "cut 1 0"), 1);
         due("a cut is a quotient", x.quotient(0, 1), 1);
         due("but not the other way", x.quotient(1, 0), 0);
         due("quotient of unlike n", x.quotient(0, 2), NONE);
@@ -458,7 +440,7 @@ public final class PromiseTest {
         due("initial what 9", x.initial(1, 9), NO_VALUE);
         due("initial what -1", x.initial(1, -1), NO_VALUE);
         due("initial of no shelf", x.initial(-1, 0), NO_VALUE);
-        due("like ones", orders(x, "uniform 0 4 2;price 0 0;price 1 5;price 2 5;price 3 5"), 5);
+        due("like ones", Texts.orders(x, "uniform 0 4 2;price 0 0;price 1 5;price 2 5;price 3 5"), 5);
         due("of like ones the least", x.greedy(0, 9, 0), 10);
         due("of like ones the least", x.greedy(0, 3, 0), 6);
         due("initial many", x.initial(0, 0), 3);
@@ -467,7 +449,7 @@ public final class PromiseTest {
         due("initial base 2", x.initial(0, 12), 12);
         due("initial base 3", x.initial(0, 13), -4);
         due("initial law", x.initial(0, 2), 1);
-        due("no law", orders(x, "told 1 4 2 3 5 12 0 5 -9;price 1 0;price 2 0;price 3 5"), 4);
+        due("no law", Texts.orders(x, "told 1 4 2 3 5 12 0 5 -9;price 1 0;price 2 0;price 3 5"), 4);
         due("initial without the law", x.initial(1, 2), 0);
         due("initial of two", x.initial(1, 0), 2);
     }
@@ -498,7 +480,7 @@ public final class PromiseTest {
         due("spanned what 2", x.spanned(0, 2), NONE);
         due("spanned what -1", x.spanned(0, -1), NONE);
         due("spanned of no shelf", x.spanned(4, 0), NONE);
-        due("match", orders(x, "match 3 5 2 1 4 -3 2 0 5 5 1 7 2"), 1);
+        due("match", Texts.orders(x, "match 3 5 2 1 4 -3 2 0 5 5 1 7 2"), 1);
         due("spanned of a match", x.spanned(3, 0), 5);
         due("all are in space where the law holds", x.spanned(3, 1), 5 * x.shelf(3, 7));
     }
@@ -529,7 +511,7 @@ public final class PromiseTest {
         due("far of unlike r", x.far(0, 2), NONE);
         due("far of unlike n", x.far(0, 3), NONE);
         due("far of no shelf", x.far(0, 4), NONE);
-        due("far below", orders(x, "told 0 3 1 1 -5 2 -3;told 1 3 1 1 0 2 0;told 2 3 1 4 8"), 3);
+        due("far below", Texts.orders(x, "told 0 3 1 1 -5 2 -3;told 1 3 1 1 0 2 0;told 2 3 1 4 8"), 3);
         due("far below nought", x.far(0, 1), 2);
         due("far with none", x.far(0, 2), -2);
         due("both with none", x.both(0, 2, 0), 0);
@@ -537,12 +519,12 @@ public final class PromiseTest {
         due("values with none", x.both(0, 2, 2), NO_VALUE);
         due("potentials with none", x.both(0, 2, 3), 0);
         due("potential with none", x.potential(0, 2, 0), NO_VALUE);
-        due("of like ones the least", orders(x, "told 0 3 1 1 0 2 4 4 4;told 1 3 1 1 9 2 5 4 5"), 2);
+        due("of like ones the least", Texts.orders(x, "told 0 3 1 1 0 2 4 4 4;told 1 3 1 1 9 2 5 4 5"), 2);
         due("of like ones the least", x.both(0, 1, 1), 1);
-        due("a ring that goes down", orders(x, "told 0 4 2 5 0 6 2 9 2 10 -9;told 1 4 2 5 0 6 -9 9 -9 10 -9"
+        due("a ring that goes down", Texts.orders(x, "told 0 4 2 5 0 6 2 9 2 10 -9;told 1 4 2 5 0 6 -9 9 -9 10 -9"
             + ";told 2 4 2 3 0 9 5 10 -9;told 3 4 2 3 0 6 0 9 -9"), 4);
         due("potentials over no ring", x.both(0, 1, 3), 1);
-        due("no potentials", orders(x, "told 0 4 2 3 0 6 5 9 5;told 1 4 2 3 0 10 5 5 5"), 2);
+        due("no potentials", Texts.orders(x, "told 0 4 2 3 0 6 5 9 5;told 1 4 2 3 0 10 5 5 5"), 2);
         due("the only one", x.both(0, 1, 1), 3);
         due("no potentials", x.both(0, 1, 3), 0);
         due("no potential", x.potential(0, 1, 0), NO_VALUE);
@@ -591,7 +573,7 @@ public final class PromiseTest {
         due("binary of a graph", x.binary(2), 1);
         due("binary of a few", x.binary(1), 1);
         due("binary of no shelf", x.binary(-1), NONE);
-        due("plus", orders(x, "told 0 2 1 1 0;uniform 1 4 2;plus 2 0 1;uniform 3 5 3"), 4);
+        due("plus", Texts.orders(x, "told 0 2 1 1 0;uniform 1 4 2;plus 2 0 1;uniform 3 5 3"), 4);
         due("binary by a bridge ahead", x.binary(2), 0);
         due("binary of three of five", x.binary(3), 0);
     }
@@ -615,7 +597,7 @@ public final class PromiseTest {
         due("tips 4", x.tips(0, 4), NO_VALUE);
         due("tips -1", x.tips(0, -1), NO_VALUE);
         due("tips of no shelf", x.tips(4, 0), NO_VALUE);
-        due("bridge", orders(x, "by 1 0 0;told 2 3 2 3 0 5 0"), 2);
+        due("bridge", Texts.orders(x, "by 1 0 0;told 2 3 2 3 0 5 0"), 2);
         due("tips of a bridge", x.tips(2, 0), NO_VALUE);
         due("gap without a bridge", x.gap(2, 0, 1), NO_VALUE);
     }
@@ -646,7 +628,7 @@ public final class PromiseTest {
         due("beside what 4", x.beside(0, 4), NONE);
         due("beside what -1", x.beside(0, -1), NONE);
         due("beside of no shelf", x.beside(4, 0), NONE);
-        due("one base", orders(x, "told 3 3 2 6 0"), 1);
+        due("one base", Texts.orders(x, "told 3 3 2 6 0"), 1);
         due("one base has none beside", x.beside(3, 0), 0);
         due("one base is no step away", x.beside(3, 1), 0);
         due("one base", x.beside(3, 2), 6);
@@ -692,7 +674,7 @@ public final class PromiseTest {
         due("onto what -1", x.onto(0, 0, -1), NONE);
         due("onto of no shelf", x.onto(4, 0, 0), NONE);
         due("onto of no shelf", x.onto(0, -1, 0), NONE);
-        due("others", orders(x, "uniform 0 8 4;uniform 1 8 3;told 2 3 1 2 5 4 1;told 3 3 1 4 5 1 1"), 4);
+        due("others", Texts.orders(x, "uniform 0 8 4;uniform 1 8 3;told 2 3 1 2 5 4 1;told 3 3 1 4 5 1 1"), 4);
         due("onto of eight", x.onto(0, 0, 0), 40320);
         due("onto of eight", x.onto(0, 0, 8), 7);
         due("onto of unlike r", x.onto(0, 1, 0), NONE);
@@ -757,10 +739,10 @@ public final class PromiseTest {
         due("past what 4", x.past(0, 4), NONE);
         due("past what -1", x.past(0, -1), NONE);
         due("past beyond", x.past(BIG, 0), NONE);
-        due("a refused clause", orders(x, "cut 3 0;cut 3 3;uniform 3 2 1"), 1);
+        due("a refused clause", Texts.orders(x, "cut 3 0;cut 3 3;uniform 3 2 1"), 1);
         due("leaves no past of its own", x.past(0, 0) * 1000 + x.past(0, 1) * 100 + x.past(0, 2) * 10 + x.past(0, 3), 3244);
         for (int k = 0; k < 2; k++) {
-            due("twenty", orders(x, "uniform 0 3 1;uniform 0 4 1;uniform 0 5 1;uniform 0 6 1;uniform 0 7 1;uniform 0 8 1;"
+            due("twenty", Texts.orders(x, "uniform 0 3 1;uniform 0 4 1;uniform 0 5 1;uniform 0 6 1;uniform 0 7 1;uniform 0 8 1;"
                 + "uniform 1 3 1;uniform 1 4 1;uniform 1 5 1;uniform 1 6 1"), 10);
         }
         due("past 19", x.past(19, 3), 3);
@@ -771,7 +753,7 @@ public final class PromiseTest {
     private static void draws() {
         PricedBases x = with("uniform 0 4 2;told 1 8 2 3 0 12 5 48 9 192 -3 129 4;told 2 3 1 4 0");
         due("X", x.count(1), 1);
-        // X goes 39022, 63567, 25612: i is the 0th of 0 1, j the 1st of 2 3; then the 0th of 1 3 and the 1st of 0 2
+        // X goes 39022, 61087: i is the 0th of 0 1, j the 1st of 2 3
         due("walk 1", x.walk(0, 1, 0), 10);
         due("walk 1", x.walk(0, 1, 1), 1);
         due("walk goes on", x.walk(2, 1000, 1), 0);
@@ -843,10 +825,10 @@ public final class PromiseTest {
     private static void keeping() {
         PricedBases x = new PricedBases();
         due("undo of nothing", x.undo(), false);
-        due("orders", orders(x, "uniform 0 4 2;price 3 8"), 2);
+        due("orders", Texts.orders(x, "uniform 0 4 2;price 3 8"), 2);
         x.seed(77);
         due("keep", x.keep(), 0);
-        due("orders", orders(x, "uniform 0 5 2;uniform 1 5 2;price 3 9"), 3);
+        due("orders", Texts.orders(x, "uniform 0 5 2;uniform 1 5 2;price 3 9"), 3);
         x.seed(5);
         x.feed(1, 2, 3, 4, 5);
         due("undo", x.undo(), true);
