@@ -162,6 +162,12 @@ public final class BoundsAnswerTest extends Bounds {
             due(x.greedy(0, 3, 0), 10);
             due(x.greedy(0, 3, 2), 1);
         });
+        test("promise 13: it takes up ELEMENT 0", "uniform 0 4 2;price 0 5", x -> {
+            due(x.greedy(0, 12, 0), 5);
+            due(x.greedy(0, 12, 2), 1);
+        });
+        test("promise 13: it takes up the last ELEMENT", "uniform 0 8 1;price 7 5", x -> due(x.greedy(0, 1, 0), 128));
+        test("promise 13: it gives up ELEMENT 0", "uniform 0 4 2;price 0 -5", x -> due(x.greedy(0, 3, 0), 6));
         test("promise 13: as many steps as ELEMENTS in a BASE", "uniform 0 8 4;price 4 1;price 5 2;price 6 3;price 7 4", x -> {
             due(x.greedy(0, 15, 0), 240);
             due(x.greedy(0, 15, 1), 10);
@@ -318,6 +324,8 @@ public final class BoundsAnswerTest extends Bounds {
         potentials("none above 0", "told 0 2 1 1 9 2 0;told 1 2 1 1 9 2 0", 0, 0);
         potentials("bounded by the first SHELF", "told 0 2 1 1 0 2 3;told 1 2 1 1 5 2 0", 0, -3);
         potentials("bounded by the second SHELF", "told 0 2 1 1 5 2 0;told 1 2 1 1 0 2 3", -3, 0);
+        potentials("bounded by the first SHELF, THE COMMON behind", "told 0 2 1 1 3 2 0;told 1 2 1 1 0 2 5", -3, 0);
+        potentials("bounded by the second SHELF, THE COMMON behind", "told 0 2 1 1 0 2 5;told 1 2 1 1 3 2 0", 0, -3);
         potentials("bounded by both, the ring being 0", "told 0 2 1 1 0 2 3;told 1 2 1 1 3 2 0", 0, -3);
         potentials("VALUES far apart", "told 0 2 1 1 -1000000 2 1000000;told 1 2 1 1 1000000 2 -1000000", 0, -2000000);
         potentials("one BASE bounds nothing", "told 0 2 1 1 5;told 1 2 1 1 -5", 0, 0);
@@ -420,6 +428,11 @@ public final class BoundsAnswerTest extends Bounds {
             due(x.quotient(0, 1), 1);
             due(x.quotient(1, 0), 0);
         });
+        test("promise 26: the empty FLAT alone is none of the other's", "told 0 3 1 1 0;uniform 1 3 1", x -> {
+            due(x.quotient(0, 1), 0);
+            due(x.quotient(1, 0), 0);
+        });
+        test("promise 26: the FLAT of all ELEMENTS is of both", "told 0 3 1 1 0;uniform 1 3 2", x -> due(x.quotient(1, 0), 0));
         test("promise 26: the least FLAT is none of the other's", "uniform 0 3 2;told 1 3 2 3 0", x -> {
             due(x.quotient(1, 0), 0);
             due(x.quotient(0, 1), 0);
@@ -545,6 +558,8 @@ public final class BoundsAnswerTest extends Bounds {
         test("promise 32: two of eight", "uniform 0 8 2", x -> due(x.binary(0), 0));
         test("promise 32: six of eight, by a SET of four", "uniform 0 8 6", x -> due(x.binary(0), 0));
         test("promise 32: the last four ELEMENTS by all others", "told 0 4 2 3 0 5 0 9 0 6 0 10 0 12 0;told 1 4 3 7 0;plus 0 1 0",
+            x -> due(x.binary(0), 0));
+        test("promise 32: the first four ELEMENTS", "told 0 4 2 3 0 5 0 9 0 6 0 10 0 12 0;told 1 4 3 7 0;plus 0 0 1",
             x -> due(x.binary(0), 0));
         test("promise 32: two of the four do not raise it by 2", "told 0 4 2 3 0 5 0 9 0 6 0 10 0", x -> due(x.binary(0), 1));
         test("promise 32: seven points in seven lines", "told 0 7 3 11 0 19 0 35 0 67 0 13 0 21 0 37 0 69 0 41 0 73 0 49 0 81 0 14 0 22 0"

@@ -39,6 +39,15 @@ public final class BoundsTapeTest extends Bounds {
         test("promise 1: THE SEED is 1 at first", x -> due(x.count(1), 1));
         test("promise 1: nothing is PAST at first", x -> due(x.past(0, 0), NONE));
         test("promise 1: nothing is KEPT at first", x -> due(x.undo(), false));
+        test("promise 1: the 512th call is answered", x -> {
+            Texts.feed(x, "uniform 0 4 2");
+            due(x.orders(13), 1);
+            int[] bases = {3, 5, 6, 9, 10, 12};
+            for (int call = 3; call < 512; call++) {
+                due(x.base(0, call % 6), bases[call % 6]);
+            }
+            due(x.told(0, -1), 36);
+        });
         test("promise 1: all memory is the desk's own", x -> {
             PricedBases other = new PricedBases();
             Texts.orders(other, "uniform 0 5 2;price 3 8");
