@@ -67,6 +67,8 @@ public final class AgainstPlainTest {
                 right = orders();
             } else if (kind == 1 && draw.nextInt(4) == 0) {
                 right = check();
+            } else if (kind == 2 && draw.nextInt(8) == 0) {
+                right = turnedAbout();
             } else {
                 right = call(CALLS[draw.nextInt(CALLS.length)]);
             }
@@ -159,6 +161,38 @@ public final class AgainstPlainTest {
         }
         int n = draw.nextInt(6) == 0 ? draw.nextInt(75) - 2 : many;
         return feed(bytes) && same("check", n);
+    }
+
+    /** A shelf told with its elements in another order (and sometimes with two values the other way round) is asked by onto. */
+    private boolean turnedAbout() throws Exception {
+        int from = draw.nextInt(4);
+        int to = draw.nextInt(4);
+        int n = other.shelf(from, 0);
+        List<Integer> row = new ArrayList<>();
+        for (int e = 0; e < n; e++) {
+            row.add(e);
+        }
+        java.util.Collections.shuffle(row, draw);
+        int bases = other.shelf(from, 2);
+        int changed = draw.nextInt(3) == 0 ? draw.nextInt(bases) : -1;
+        StringBuilder text = new StringBuilder("told " + to + " " + n + " " + other.shelf(from, 1));
+        for (int k = 0; k < bases; k++) {
+            int base = other.base(from, k);
+            int image = 0;
+            for (int e = 0; e < n; e++) {
+                image |= (base >> e & 1) << row.get(e);
+            }
+            text.append(' ').append(image).append(' ').append(other.value(from, k == changed ? other.base(from, 0) : base));
+        }
+        if (text.length() > 200) {
+            return true;
+        }
+        said.add("text: " + text);
+        boolean right = feed(text.toString().getBytes()) && same("orders", text.length());
+        for (int what = 0; right && what <= n && n < 8; what++) {
+            right = same("onto", from, to, what);
+        }
+        return right;
     }
 
     private boolean orders() throws Exception {

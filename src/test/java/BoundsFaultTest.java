@@ -286,6 +286,7 @@ public final class BoundsFaultTest extends Bounds {
             due(Texts.orders(x, text + ";" + text), 16);
         });
         test("promise 3: sixteen are no FAULT", x -> due(Texts.orders(x, cuts(15) + "cut 0 0"), 0));
+        fault(cuts(16), -4128);
         fault(cuts(16) + "cut 0 0", -4128);
         fault(cuts(16) + "price 0 0", -4128);
         fault(cuts(16) + "x", -4128);
