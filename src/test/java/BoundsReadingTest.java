@@ -12,6 +12,8 @@ public final class BoundsReadingTest extends Bounds {
         onto();
         walks();
         kept();
+        ofItself();
+        oneByOne();
         end();
     }
 
@@ -107,6 +109,51 @@ public final class BoundsReadingTest extends Bounds {
             due(x.count(1), 5);
             due(x.value(3, 2), 5);
             due(x.price(2, 0), 9);
+        });
+    }
+
+    /** A SHELF becomes what another one would become by the same. */
+    private static void ofItself() {
+        String three = "told 0 4 2 3 1 5 2 9 3 6 4 10 5 12 9;told 1 4 1 1 7 4 -3;price 1 6;price 3 -2;";
+        String[] behind = {"dual S 0", "without S 0 1", "by S 0 3", "shift S 0", "cut S 0", "initial S 0", "raise S 0", "plus S 0 1",
+            "plus S 1 0", "plus S 0 0", "join S 0 1", "join S 1 0"};
+        for (String clause : behind) {
+            test("promise 3: a SHELF made of itself: " + clause, three + clause.replace('S', '2'), x -> {
+                String want = told(x, 2);
+                due(Texts.orders(x, clause.replace('S', '0')), 1);
+                due("told 2" + told(x, 0).substring(6), want);
+            });
+        }
+        test("promise 3: a SHELF made of itself alone", "told 0 2 1 1 3 2 4;join 0 0 0", "told 0 3 1 1 3 2 4 4 5;join 0 0 0",
+            "told 0 3 2 3 7 5 8 6 9");
+    }
+
+    /** The first text's clauses but the last are done, the last is refused; behind it the second text's are done. */
+    private static void test(String named, String refused, String text, String want) {
+        test(named, x -> {
+            due(Texts.orders(x, refused), Texts.clauses(refused) - 1);
+            due(Texts.orders(x, text), Texts.clauses(text));
+            due(told(x, 0), want);
+        });
+    }
+
+    private static void oneByOne() {
+        test("promise 3: shift goes by PRICES as they are then", "price 0 5;shift 1 0;price 0 9;shift 2 0", x -> {
+            due(x.value(1, 1), 5);
+            due(x.value(2, 1), 9);
+        });
+        test("promise 3: initial goes by PRICES as they are then", "price 0 5;initial 1 0;price 0 -5;initial 2 0", x -> {
+            due(told(x, 1), "told 1 2 1 1 0");
+            due(told(x, 2), "told 2 2 1 2 0");
+        });
+        test("promise 3: what a SHELF was made of may change behind", "uniform 0 4 2;dual 1 0;uniform 0 3 1", x -> {
+            due(x.shelf(1, 0), 4);
+            due(x.shelf(1, 2), 6);
+        });
+        test("promise 4: a PRICE changes no VALUE", "told 0 2 1 1 3 2 4;price 0 7", x -> {
+            due(x.value(0, 1), 3);
+            due(x.shelf(0, 4), 2);
+            due(x.shelf(0, 3), 4);
         });
     }
 }
