@@ -2,6 +2,9 @@
 public final class BoundsReadingTest extends Bounds {
     private static final String UNLIKE = "told 0 4 2 3 7 12 7";
     private static final String THREE_PAIRS = "told 0 4 2 3 1 12 1 5 3 10 3 6 5 9 5";
+    private static final String SNAKE = "told 0 7 3 7 1 21 2 28 3 44 4 100 5 97 6 73 7 74 8 82 9 50 10";
+    private static final String LONG_SNAKE = "told 0 8 4 15 1 78 2 204 3 232 4 105 5 89 6 153 7 149 8 150 9 210 10 195 11 163 12 51 13"
+        + " 58 14 60 15 116 16";
     private static final String RING = "told 0 5 2 3 5 6 1 12 9 24 -4 17 2";
 
     public static void main(String[] args) {
@@ -26,6 +29,17 @@ public final class BoundsReadingTest extends Bounds {
             due(x.circuit(0, 0), 7);
             due(x.circuit(0, 1), 24);
         });
+        test("promise 25: a row of CIRCUITS of two ELEMENTS", "told 0 7 5 87 0 103 0 110 0", x -> {
+            int[] due = {0, 1, 2, 0, 0, 0, 6};
+            for (int e = 0; e < 7; e++) {
+                due(x.component(0, e), due[e]);
+            }
+        });
+        test("promise 25: CIRCUITS far from one another", "told 0 8 4 83 0 86 0 99 0 153 0 156 0", x -> {
+            for (int e = 0; e < 8; e++) {
+                due(x.component(0, e), 0);
+            }
+        });
         test("promise 36: the most steps are not from the least BASE", "told 0 5 2 6 0 3 0 9 0 24 0", x -> due(x.beside(0, 1), 3));
     }
 
@@ -40,6 +54,27 @@ public final class BoundsReadingTest extends Bounds {
     }
 
     private static void sums() {
+        test("promise 13: more steps than ELEMENTS in a BASE", "told 0 7 2 3 1 6 2 12 3 24 4 48 5 96 6", x -> {
+            due(x.greedy(0, 3, 0), 96);
+            due(x.greedy(0, 3, 2), 5);
+        });
+        test("promise 13: more steps than ELEMENTS", SNAKE, x -> {
+            due(x.greedy(0, 7, 0), 50);
+            due(x.greedy(0, 7, 1), 10);
+            due(x.greedy(0, 7, 2), 9);
+            due(x.greedy(0, 28, 2), 7);
+        });
+        test("promise 13: fifteen steps", LONG_SNAKE, x -> {
+            due(x.greedy(0, 15, 0), 116);
+            due(x.greedy(0, 15, 2), 15);
+            due(x.arrive(0), 16);
+        });
+        test("promise 13: no BASE has a greater SUM, some have as great ones", "uniform 0 4 2", x -> {
+            due(x.greedy(0, 12, 0), 12);
+            due(x.greedy(0, 12, 3), 1);
+        });
+        test("promise 14: any of INITIAL will do", "uniform 0 4 2", x -> due(x.arrive(0), 6));
+        test("promise 39: any BASE of the greatest SUM will do", "told 0 5 2 6 1 10 2 17 3 20 3", x -> due(x.drawn(0, 60), 55));
         test("promise 18: SETS in no BASE are in no space", "told 0 3 2 3 0", x -> {
             due(x.spanned(0, 0), 2);
             due(x.spanned(0, 1), 2);
@@ -50,6 +85,23 @@ public final class BoundsReadingTest extends Bounds {
         test("promise 29: of all STAIRS, those of more steps than at least, too", "told 0 5 2 3 5 5 1 12 5 17 4 24 4", x -> {
             due(x.stairs(0, 3, 12, 0), 2);
             due(x.stairs(0, 3, 12, 1), 4);
+        });
+        test("promise 29: more steps than ELEMENTS", SNAKE, x -> {
+            due(x.stairs(0, 7, 50, 0), 9);
+            due(x.stairs(0, 7, 50, 1), 1);
+            due(x.stairs(0, 82, 28, 0), 6);
+            due(x.stairs(0, 82, 28, 1), 3);
+        });
+        test("promise 36: more steps than ELEMENTS", SNAKE, x -> {
+            due(x.beside(0, 0), 9);
+            due(x.beside(0, 1), 9);
+            due(x.beside(0, 2), 21);
+            due(x.beside(0, 3), 2);
+        });
+        test("promise 36: fifteen steps", LONG_SNAKE, x -> {
+            due(x.beside(0, 0), 15);
+            due(x.beside(0, 1), 15);
+            due(x.beside(0, 2), 51);
         });
         test("promise 29: of all STAIRS, those that take up again what they gave up", "told 0 7 3 7 9 11 8 25 7 56 3 52 6 100 9", x -> {
             due(x.stairs(0, 7, 100, 0), 5);
